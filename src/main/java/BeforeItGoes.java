@@ -160,7 +160,8 @@ public final class BeforeItGoes {
             return NO_DAY;
         }
         startTrial();
-        trial.livePlain();
+        trial.reckon();
+        trial.live();
         return ofDay(what);
     }
 
@@ -187,7 +188,7 @@ public final class BeforeItGoes {
                 return false;
             }
             seen |= 1 << wall;
-            trial.row[i] = wall;
+            trial.place(i, wall);
         }
         return true;
     }
@@ -223,17 +224,20 @@ public final class BeforeItGoes {
         }
     }
 
+    /** The trial's site is as the true one, and its order PLAIN. */
     private void startTrial() {
         trial.site.become(site);
+        for (int i = 0; i < WALLS; i++) {
+            trial.place(i, i);
+        }
     }
 
     /** A PLAIN day, were one of WARM .. EAGER otherwise. */
     private void liveWith(int dial, int v) {
         startTrial();
-        if (dial >= WARM && dial <= EAGER) {
-            trial.site.dials[dial] = v;
-        }
-        trial.livePlain();
+        trial.site.turn(dial, v);
+        trial.reckon();
+        trial.live();
     }
 
     // ---- what would be best
@@ -244,7 +248,6 @@ public final class BeforeItGoes {
         }
         startTrial();
         trial.reckon();
-        trial.setPlain();
         pick.clear();
         boolean more = true;
         for (int i = 0; i < ORDERS && more; i++) {
@@ -284,7 +287,8 @@ public final class BeforeItGoes {
         for (int bits = 0; bits < 1 << site.size; bits++) {
             startTrial();
             trial.site.wetJust(bits);
-            trial.livePlain();
+            trial.reckon();
+            trial.live();
             pick.offer(bits, trial.bad + c * Integer.bitCount(bits), 0);
         }
         return what == 0 ? pick.which : pick.bad;
@@ -294,7 +298,8 @@ public final class BeforeItGoes {
         for (int n = site.size; n > 0; n--) {
             startTrial();
             trial.site.size = n;
-            trial.livePlain();
+            trial.reckon();
+            trial.live();
             if (trial.bad == 0) {
                 return n;
             }
@@ -338,7 +343,8 @@ public final class BeforeItGoes {
             return BAD;
         }
         startTrial();
-        trial.livePlain();
+        trial.reckon();
+        trial.live();
         int mixed = 0, thrown = 0, left = 0, mixedAt = 0;
         for (int wall = 0; wall < site.size; wall++) {
             int begun = trial.begun[wall], yards = site.yards[wall];
@@ -389,14 +395,18 @@ public final class BeforeItGoes {
 
     private int notSo(Sheet row) {
         startTrial();
-        trial.livePlain();
+        trial.reckon();
+        trial.live();
         return trial.unlike(row);
     }
 
     private long dialsOf(Sheet row, int dial) {
         long bits = 0;
         for (int v = 0; v <= MOST[dial]; v++) {
-            liveWith(dial, v);
+            startTrial();
+            trial.site.turn(dial, v);
+            trial.reckon();
+            trial.live();
             if (trial.unlike(row) == 0) {
                 bits |= 1L << v;
             }
@@ -409,7 +419,8 @@ public final class BeforeItGoes {
         for (int text = 0; text < textCount; text++) {
             startTrial();
             trial.site.rule = text;
-            trial.livePlain();
+            trial.reckon();
+            trial.live();
             if (trial.unlike(row) == 0) {
                 bits |= 1 << text;
             }
@@ -424,7 +435,8 @@ public final class BeforeItGoes {
             if (site.has(wall)) {
                 trial.site.kinds[wall] = kind;
             }
-            trial.livePlain();
+            trial.reckon();
+            trial.live();
             if (trial.unlike(row) == 0) {
                 bits |= 1 << kind;
             }
@@ -438,7 +450,8 @@ public final class BeforeItGoes {
             return BAD;
         }
         startTrial();
-        trial.livePlain();
+        trial.reckon();
+        trial.live();
         row.become(SORTS - 1, site.size);
         for (int wall = 0; wall < site.size; wall++) {
             row.put(wall, trial.trowelled[wall]);
@@ -657,6 +670,12 @@ public final class BeforeItGoes {
             return wall >= 0 && wall < size && wall < WALLS;
         }
 
+        void turn(int dial, int v) {
+            if (dial >= WARM && dial <= EAGER) {
+                dials[dial] = v;
+            }
+        }
+
         int[] rowOf(int what) {
             switch (what) {
                 case NUMBER: return numbers;
@@ -703,7 +722,7 @@ public final class BeforeItGoes {
     private static final class Day {
         private final Site site = new Site();
         private final Text[] texts;
-        private final Stack stack = new Stack();
+        private final int[] stack = new int[TAPE_SIZE];
         private final int[] names = new int[NAMES];
         private final int[] row = new int[WALLS];
         private final int[] ripens = new int[WALLS];
@@ -717,12 +736,6 @@ public final class BeforeItGoes {
 
         Day(Text[] texts) {
             this.texts = texts;
-        }
-
-        void livePlain() {
-            reckon();
-            setPlain();
-            live();
         }
 
         /** What THE RULE tells of each WALL ahead of the day, whatever the order. */
@@ -751,9 +764,10 @@ public final class BeforeItGoes {
             return Math.max(PART_LEAST[part], Math.min(PART_MOST[part], value));
         }
 
-        void setPlain() {
-            for (int i = 0; i < WALLS; i++) {
-                row[i] = i;
+        /** The i-th in the order; nothing but a WALL's number ever comes into it. */
+        void place(int i, int wall) {
+            if (i >= 0 && i < WALLS && wall >= 0 && wall < WALLS) {
+                row[i] = wall;
             }
         }
 
@@ -908,9 +922,6 @@ public final class BeforeItGoes {
 
         void clear() {
             any = false;
-            which = 0;
-            bad = 0;
-            done = 0;
         }
 
         void offer(int newWhich, int newBad, int newDone) {
@@ -957,31 +968,6 @@ public final class BeforeItGoes {
         }
     }
 
-    /** The numbers that a TEXT's codes still want. */
-    private static final class Stack {
-        private final int[] items = new int[TAPE_SIZE];
-        private int size = 0;
-
-        void clear() {
-            size = 0;
-        }
-
-        void push(int v) {
-            if (size >= 0 && size < TAPE_SIZE) {
-                items[size] = v;
-                size++;
-            }
-        }
-
-        int pop() {
-            if (size <= 0 || size > TAPE_SIZE) {
-                return 0;
-            }
-            size--;
-            return items[size];
-        }
-    }
-
     /**
      * A TEXT as codes, each behind what it works on: a number is itself, a NAME or a sign is its
      * TOKEN below 0.
@@ -1018,31 +1004,29 @@ public final class BeforeItGoes {
             size = other.size;
         }
 
-        int value(int part, int[] names, Stack stack) {
+        int value(int part, int[] names, int[] stack) {
             if (part < 0 || part >= PARTS) {
                 return 0;
             }
-            stack.clear();
+            int top = 0;
             for (int i = Math.max(0, ends[part]); i < ends[part + 1] && i < TAPE_SIZE; i++) {
-                apply(codes[i], names, stack);
+                int code = codes[i];
+                if (code >= -LAST_NAME) {
+                    int name = -code - FIRST_NAME;
+                    if (top < stack.length) {
+                        stack[top] = code >= 0 ? code : name < names.length ? names[name] : 0;
+                        top++;
+                    }
+                } else if (code == -NOT || code == -NEGATE) {
+                    if (top > 0) {
+                        stack[top - 1] = code == -NEGATE ? -stack[top - 1] : stack[top - 1] == 0 ? 1 : 0;
+                    }
+                } else if (top > 1) {
+                    top--;
+                    stack[top - 1] = joined(-code, stack[top - 1], stack[top]);
+                }
             }
-            return stack.pop();
-        }
-
-        private static void apply(int code, int[] names, Stack stack) {
-            if (code >= 0) {
-                stack.push(code);
-            } else if (code >= -LAST_NAME) {
-                int name = -code - FIRST_NAME;
-                stack.push(name >= 0 && name < names.length ? names[name] : 0);
-            } else if (code == -NOT) {
-                stack.push(truth(stack.pop() == 0));
-            } else if (code == -NEGATE) {
-                stack.push(-stack.pop());
-            } else {
-                int right = stack.pop(), left = stack.pop();
-                stack.push(joined(-code, left, right));
-            }
+            return top > 0 ? stack[top - 1] : 0;
         }
 
         private static int joined(int sign, int left, int right) {
@@ -1050,23 +1034,22 @@ public final class BeforeItGoes {
                 case '+': return left + right;
                 case '-': return left - right;
                 case '*': return left * right;
-                case '<': return truth(left < right);
-                case '=': return truth(left == right);
-                case AND: return truth(left != 0 && right != 0);
-                default: return truth(left != 0 || right != 0);
+                case '<': return left < right ? 1 : 0;
+                case '=': return left == right ? 1 : 0;
+                case AND: return left != 0 && right != 0 ? 1 : 0;
+                default: return left != 0 || right != 0 ? 1 : 0;
             }
-        }
-
-        private static int truth(boolean is) {
-            return is ? 1 : 0;
         }
     }
 
-    /** THE TAPE, and the TOKEN that is read next. */
+    /** THE TAPE, and the TOKENS that it is cut into; the last of them is END, where the tape ends. */
     private static final class Tape {
         private final int[] bytes = new int[TAPE_SIZE];
         private int size = 0;
-        private int at, start, token, number;
+        private final int[] tokens = new int[TAPE_SIZE + 1];
+        private final int[] starts = new int[TAPE_SIZE + 1];
+        private final int[] numbers = new int[TAPE_SIZE + 1];
+        private int last = 0;
 
         int add(int letter) {
             if (size < 0 || size >= TAPE_SIZE) {
@@ -1081,32 +1064,69 @@ public final class BeforeItGoes {
             size = 0;
         }
 
-        void rewind() {
-            at = 0;
-            next();
+        void cut() {
+            last = 0;
+            int at = 0;
+            while (at < size && at < TAPE_SIZE) {
+                int first = bytes[at], end = at + 1;
+                if (first != 32 && first != 10) {
+                    end = endOf(at);
+                    tokens[last] = tokenOf(at, end);
+                    starts[last] = at;
+                    numbers[last] = tokens[last] == NUMERAL ? numberOf(at, end) : 0;
+                    last++;
+                }
+                at = end;
+            }
+            tokens[last] = END;
+            starts[last] = size;
         }
 
-        /** The next TOKEN; at the end it is END, and starts where the tape ends. */
-        void next() {
-            while (at < size && (byteAt(at) == 32 || byteAt(at) == 10)) {
-                at++;
+        /** The place behind the TOKEN that begins at one: that of a word, a number goes on while it can. */
+        private int endOf(int at) {
+            int end = at + 1;
+            boolean letters = isLetter(bytes[at]), digits = isDigit(bytes[at]);
+            while (end < size && end < TAPE_SIZE
+                    && (letters && isLetter(bytes[end]) || digits && isDigit(bytes[end]))) {
+                end++;
             }
-            start = at;
-            int first = byteAt(at);
-            if (first < 0) {
-                token = END;
-            } else if (isLetter(first)) {
-                readWord();
-            } else if (isDigit(first)) {
-                readNumber();
-            } else {
-                at++;
-                token = SIGNS.indexOf((char) first) >= 0 ? first : WRONG;
-            }
+            return end;
         }
 
-        private int byteAt(int i) {
-            return i >= 0 && i < size && i < TAPE_SIZE ? bytes[i] : NONE;
+        private int tokenOf(int at, int end) {
+            int first = bytes[at];
+            if (isDigit(first)) {
+                return end - at > MOST_DIGITS ? WRONG : NUMERAL;
+            }
+            if (!isLetter(first)) {
+                return SIGNS.indexOf((char) first) >= 0 ? first : WRONG;
+            }
+            for (int word = FIRST_NAME; word <= LAST_KEY; word++) {
+                if (spells(wordOf(word), at, end)) {
+                    return word;
+                }
+            }
+            return WRONG;
+        }
+
+        private int numberOf(int at, int end) {
+            int number = 0;
+            for (int i = at; i < end && i < TAPE_SIZE; i++) {
+                number = number * 10 + (bytes[i] - '0');
+            }
+            return number;
+        }
+
+        private boolean spells(String word, int at, int end) {
+            if (word.length() != end - at) {
+                return false;
+            }
+            for (int i = at; i < end && i < TAPE_SIZE; i++) {
+                if (word.charAt(i - at) != bytes[i]) {
+                    return false;
+                }
+            }
+            return true;
         }
 
         private static boolean isLetter(int letter) {
@@ -1117,39 +1137,15 @@ public final class BeforeItGoes {
             return letter >= '0' && letter <= '9';
         }
 
-        private void readWord() {
-            while (at < size && isLetter(byteAt(at))) {
-                at++;
-            }
-            token = WRONG;
-            for (int word = FIRST_NAME; word <= LAST_KEY; word++) {
-                if (spells(wordOf(word))) {
-                    token = word;
-                }
-            }
-        }
-
-        private boolean spells(String word) {
-            if (word.length() != at - start) {
-                return false;
-            }
-            for (int i = 0; i < word.length(); i++) {
-                if (word.charAt(i) != byteAt(start + i)) {
-                    return false;
-                }
-            }
-            return true;
-        }
-
         private static String wordOf(int word) {
             switch (word) {
                 case 1: return "warm";
                 case 2: return "age";
                 case 3: return "dirt";
                 case 4: return "yards";
-                case OFF_NAME: return "off";
-                case LAST_NAME: return "number";
-                case FIRST_KEY: return "ripens";
+                case 5: return "off";
+                case 6: return "number";
+                case 7: return "ripens";
                 case 8: return "takes";
                 case 9: return "spoils";
                 case OR: return "or";
@@ -1157,23 +1153,13 @@ public final class BeforeItGoes {
                 default: return "not";
             }
         }
-
-        private void readNumber() {
-            number = 0;
-            while (at < size && isDigit(byteAt(at))) {
-                // a longer one is wrong anyhow: what it would be does not matter
-                number = number * 10 + (byteAt(at) - '0');
-                at++;
-            }
-            token = at - start > MOST_DIGITS ? WRONG : NUMERAL;
-        }
     }
 
     /** Reads THE TAPE by the grammar of TEXTS, up to the first TOKEN that can't stand there. */
     private static final class Reader {
         private final Tape tape;
         private final Text draft = new Text();
-        private int open, fault;
+        private int at, open, fault;
 
         Reader(Tape tape) {
             this.tape = tape;
@@ -1184,7 +1170,8 @@ public final class BeforeItGoes {
             open = 0;
             fault = NONE;
             draft.clear();
-            tape.rewind();
+            at = 0;
+            tape.cut();
             for (int part = 0; part < PARTS; part++) {
                 expect(FIRST_KEY + part);
                 readE();
@@ -1197,18 +1184,28 @@ public final class BeforeItGoes {
 
         /** Behind a FAULT no TOKEN is any: so all that is open comes to its end. */
         private boolean is(int token) {
-            return fault == NONE && tape.token == token;
+            return token() == token;
+        }
+
+        private int token() {
+            return fault == NONE && at >= 0 && at <= TAPE_SIZE ? tape.tokens[at] : WRONG;
+        }
+
+        private void next() {
+            if (at < tape.last && at < TAPE_SIZE) {
+                at++;
+            }
         }
 
         private void fail() {
             if (fault == NONE) {
-                fault = tape.start;
+                fault = at >= 0 && at <= TAPE_SIZE ? tape.starts[at] : tape.size;
             }
         }
 
         private void expect(int token) {
             if (is(token)) {
-                tape.next();
+                next();
             } else {
                 fail();
             }
@@ -1221,14 +1218,14 @@ public final class BeforeItGoes {
                 return false;
             }
             open++;
-            tape.next();
+            next();
             return true;
         }
 
         private void readE() {
             readAnd();
             for (int i = 0; i < TAPE_SIZE && is(OR); i++) {
-                tape.next();
+                next();
                 readAnd();
                 draft.add(-OR);
             }
@@ -1237,7 +1234,7 @@ public final class BeforeItGoes {
         private void readAnd() {
             readNot();
             for (int i = 0; i < TAPE_SIZE && is(AND); i++) {
-                tape.next();
+                next();
                 readNot();
                 draft.add(-AND);
             }
@@ -1256,8 +1253,8 @@ public final class BeforeItGoes {
         private void readCompared() {
             readSum();
             if (is('<') || is('=')) {
-                int sign = tape.token;
-                tape.next();
+                int sign = token();
+                next();
                 readSum();
                 draft.add(-sign);
             }
@@ -1266,8 +1263,8 @@ public final class BeforeItGoes {
         private void readSum() {
             readTerm();
             for (int i = 0; i < TAPE_SIZE && (is('+') || is('-')); i++) {
-                int sign = tape.token;
-                tape.next();
+                int sign = token();
+                next();
                 readTerm();
                 draft.add(-sign);
             }
@@ -1276,33 +1273,46 @@ public final class BeforeItGoes {
         private void readTerm() {
             readOne();
             for (int i = 0; i < TAPE_SIZE && is('*'); i++) {
-                tape.next();
+                next();
                 readOne();
                 draft.add(-'*');
             }
         }
 
         private void readOne() {
-            if (is(NUMERAL)) {
-                draft.add(tape.number);
-                tape.next();
-            } else if (is('-')) {
-                if (opens()) {
-                    readOne();
-                    open--;
-                    draft.add(-NEGATE);
-                }
-            } else if (is('(')) {
-                if (opens()) {
-                    readE();
-                    expect(')');
-                    open--;
-                }
-            } else if (fault == NONE && tape.token >= FIRST_NAME && tape.token <= LAST_NAME) {
-                draft.add(-tape.token);
-                tape.next();
+            int token = token();
+            if (token == NUMERAL) {
+                draft.add(number());
+                next();
+            } else if (token >= FIRST_NAME && token <= LAST_NAME) {
+                draft.add(-token);
+                next();
+            } else if (token == '-') {
+                readMinus();
+            } else if (token == '(') {
+                readBracket();
             } else {
                 fail();
+            }
+        }
+
+        private int number() {
+            return at >= 0 && at <= TAPE_SIZE ? tape.numbers[at] : 0;
+        }
+
+        private void readMinus() {
+            if (opens()) {
+                readOne();
+                open--;
+                draft.add(-NEGATE);
+            }
+        }
+
+        private void readBracket() {
+            if (opens()) {
+                readE();
+                expect(')');
+                open--;
             }
         }
     }
