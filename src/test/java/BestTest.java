@@ -4,6 +4,7 @@ public final class BestTest {
 
     public static void main(String[] args) {
         best();
+        everyOrder("");
         good();
         wetting();
         alone();
@@ -62,6 +63,25 @@ public final class BestTest {
         check.due("P10 six alike", v.best(2), 123456);
         check.due("P10 PLAIN then", v.best(0), v.day(0));
         check.due("P10 PLAIN then", v.best(1), v.day(1));
+    }
+
+    /** The six of which just one order is best, numbered in each of 720 ways: each order is best once. */
+    private static void everyOrder(String begin) {
+        for (int next = 1; next <= 6 && begin.length() < 6; next++) {
+            if (begin.indexOf('0' + next) < 0) {
+                everyOrder(begin + next);
+            }
+        }
+        if (begin.length() < 6) {
+            return;
+        }
+        int[] yards = {7, 2, 5, 5, 3, 2};
+        BeforeItGoes x = Check.ruled("ripens 20 + number * 9;takes 1;spoils off;");
+        for (int wall = 1; wall <= 6; wall++) {
+            int number = 5 - begin.indexOf('0' + wall);
+            x.wall(0, number, yards[number]);
+        }
+        check.due("P10 the order of " + begin, x.best(2), Integer.parseInt(begin));
     }
 
     private static void good() {
