@@ -196,7 +196,7 @@ public final class BooksTest {
         BeforeItGoes x = Check.ruled("ripens 20;takes 1;spoils 100 + warm;");
         x.wall(0, 0, 1);
         x.set(5, 0, 1);
-        // 12345 by 512 is 24; 1103527590 by 512 is 2155327, modulo 41 18
+        // 12345 by 512 is 24; 1103527590 by 512 is 2155327, modulo 41 39
         check.due("P20 drawn(0)", x.drawn(0), 124);
         check.due("P20 drawn(1)", x.drawn(1), 100 + 1103527590 / 512 % 41);
         // -1: -1103502900, as if 3191464396; by 512 it is 6233328

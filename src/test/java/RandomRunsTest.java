@@ -146,7 +146,8 @@ public final class RandomRunsTest {
         for (int i = upTo(6); i > 0; i--) {
             wall();
         }
-        while (calls < 500) {
+        // a SHEET that is filled takes 41 calls, and no object is asked more than 512 times
+        while (calls < 460) {
             switch (upTo(9)) {
                 case 0: case 1: change(); break;
                 case 2: case 3: live(); break;
