@@ -1067,7 +1067,7 @@ public final class BeforeItGoes {
         void cut() {
             last = 0;
             int at = 0;
-            while (at < size && at < TAPE_SIZE) {
+            while (at < size && at < TAPE_SIZE && last < TAPE_SIZE) {
                 int first = bytes[at], end = at + 1;
                 if (first != 32 && first != 10) {
                     end = endOf(at);
